@@ -435,8 +435,8 @@ public final class ClaimHall {
             return NONE;
         }
         it.fill(bench, cleaner.letters, scale);
+        it.tellRule(signs, scale);
         it.tellStep(numbers, rewriter, source);
-        it.sorted = it.isRule() && cleaner.isSorted(it.row, 0);
         taker.putAway(it);
         if (it.row.size == 0) {
             ending = PROVED;
@@ -506,7 +506,7 @@ public final class ClaimHall {
         final int[] starts = new int[MOST_LITERALS + 1];
         final boolean[] denied = new boolean[MOST_LITERALS];
         int size = 0;
-        /** A bit for each SIGN in it, 16 higher for what is denied: those of a CLAIM that takes it in are among them. */
+        /** A bit for each SIGN in it, 16 higher for a SAYING that is denied: what TAKES IT IN has no other ones. */
         int marks = 0;
 
         void empty() {
@@ -649,7 +649,11 @@ public final class ClaimHall {
         int weight = 0;
         int chosen = NONE;
         int letters = 0;
-        /** Whether its left side is GREATER, so that the right one never is, whatever stands for the LETTERS. */
+        /** Whether it may rewrite: one LITERAL, a said EQUAL. */
+        boolean rule = false;
+        /** Of a rule, where the right side begins. */
+        int right = 0;
+        /** Of a rule, whether the left side is GREATER; then it is so whatever stands for the LETTERS. */
         boolean sorted = false;
 
         int kind() {
@@ -663,10 +667,6 @@ public final class ClaimHall {
 
         boolean isPositive() {
             return chosen == NONE;
-        }
-
-        boolean isRule() {
-            return row.size == 1 && !row.denied[0] && row.isEqual(0);
         }
 
         boolean hasRewritingNumber(int what) {
@@ -689,6 +689,12 @@ public final class ClaimHall {
                     chosen = i;
                 }
             }
+        }
+
+        void tellRule(Signs signs, Scale scale) {
+            rule = row.size == 1 && !row.denied[0] && row.isEqual(0);
+            right = rule ? signs.after(row.places, 1) : 0;
+            sorted = rule && scale.compare(row.places, 1, row.places, right) == GREATER;
         }
 
         void tellStep(int[] from, Rewriter rewriter, Row given) {
@@ -815,11 +821,11 @@ public final class ClaimHall {
                 if (endA - a == endB - b && alike(s, a, t, b, endA - a)) {
                     return ALIKE;
                 }
-                Arrays.fill(surplus, 0);
                 heavier = 0;
                 tally(s, a, endA, 1);
                 tally(t, b, endB, -1);
-                lookAtSurplus();
+                settleSurplus(s, a, endA);
+                settleSurplus(t, b, endB);
                 if (heavier != 0) {
                     return settled(heavier > 0);
                 }
@@ -846,12 +852,14 @@ public final class ClaimHall {
             }
         }
 
-        private void lookAtSurplus() {
-            for (int k = 0; k < surplus.length; k++) {
-                if (surplus[k] < 0) {
-                    firstMay = false;
-                } else if (surplus[k] > 0) {
-                    secondMay = false;
+        /** Looks at the surplus of each LETTER there once, and leaves it at 0 for the next time. */
+        private void settleSurplus(int[] row, int from, int to) {
+            for (int at = from; at < to; at++) {
+                int letter = -1 - row[at];
+                if (letter >= 0 && letter < surplus.length) {
+                    firstMay = firstMay && surplus[letter] >= 0;
+                    secondMay = secondMay && surplus[letter] <= 0;
+                    surplus[letter] = 0;
                 }
             }
         }
@@ -895,8 +903,11 @@ public final class ClaimHall {
         private final int[] firstBack = new int[DEPTH];
         private final int[] secondBack = new int[DEPTH];
         private final int[] openBack = new int[DEPTH];
-        private final int[] pathAt = new int[DEPTH];
-        private final int[] pathEnd = new int[DEPTH];
+        private final int[] atBack = new int[DEPTH];
+        private final int[] endBack = new int[DEPTH];
+        private int wayAt = 0;
+        private int wayEnd = 0;
+        private int wayDepth = 0;
         final int[] written = new int[ROOM];
         int length = 0;
 
@@ -971,7 +982,7 @@ public final class ClaimHall {
                     open += signs.partsOf(place) - 1;
                     a++;
                     b++;
-                } else if (place >= 0 && board[v] >= 0) {
+                } else if (place >= 0 && board[v] >= 0 && u != v) {
                     if (place != board[v] || depth >= DEPTH) {
                         return false;
                     }
@@ -994,7 +1005,7 @@ public final class ClaimHall {
             return false;
         }
 
-        /** Of two places, one at least with a LETTER for which nothing stands: lets the other one stand for it. */
+        /** Of two places, unlike ones with a LETTER at least: lets what is at the other one stand for it, if it may. */
         private boolean meet(int u, int v) {
             if (board[u] == board[v]) {
                 return true;
@@ -1010,33 +1021,11 @@ public final class ClaimHall {
         }
 
         private boolean isIn(int letter, int from) {
-            int at = from;
-            int end = signs.after(board, from);
-            int depth = 0;
+            beginWay(from, signs.after(board, from));
             for (int n = 0; n < MANY; n++) {
-                if (at >= end) {
-                    if (depth == 0) {
-                        return false;
-                    }
-                    depth--;
-                    at = pathAt[depth];
-                    end = pathEnd[depth];
-                    continue;
-                }
-                int now = resting(at);
-                if (board[now] < 0 && -1 - board[now] == letter) {
-                    return true;
-                }
-                at++;
-                if (now != at - 1 && board[now] >= 0) {
-                    if (depth >= DEPTH) {
-                        return true;
-                    }
-                    pathAt[depth] = at;
-                    pathEnd[depth] = end;
-                    depth++;
-                    at = now;
-                    end = signs.after(board, now);
+                int at = nextOnWay();
+                if (at == NONE || board[at] == -1 - letter) {
+                    return at != NONE;
                 }
             }
             return true;
@@ -1044,60 +1033,72 @@ public final class ClaimHall {
 
         /** Writes the PLACES from .. to as they are under the STANDING; false if more than most would be written. */
         boolean write(int from, int to, int most) {
-            int at = from;
-            int end = to;
-            int depth = 0;
+            beginWay(from, to);
             for (int n = 0; n < MANY; n++) {
-                if (at >= end) {
-                    if (depth == 0) {
-                        return true;
-                    }
-                    depth--;
-                    at = pathAt[depth];
-                    end = pathEnd[depth];
-                    continue;
+                int at = nextOnWay();
+                if (at == NONE) {
+                    return true;
                 }
-                int now = resting(at);
-                at++;
-                if (now == at - 1 || board[now] < 0) {
-                    if (length >= most || length >= ROOM) {
-                        return false;
-                    }
-                    written[length] = board[now];
-                    length++;
-                } else {
-                    if (depth >= DEPTH) {
-                        return false;
-                    }
-                    pathAt[depth] = at;
-                    pathEnd[depth] = end;
-                    depth++;
-                    at = now;
-                    end = signs.after(board, now);
+                if (length >= most || length >= ROOM) {
+                    return false;
                 }
+                written[length] = board[at];
+                length++;
             }
             return false;
         }
 
-        /** Whether the row at s, of the second, MATCHES that at t, of the first; what stands already stays. */
-        boolean matches(int s, int t) {
+        private void beginWay(int from, int to) {
+            wayAt = from;
+            wayEnd = to;
+            wayDepth = 0;
+        }
+
+        /** The next place on the way, which leads over what stands for LETTERS; NONE behind the last. */
+        private int nextOnWay() {
+            for (int n = 0; n < MANY; n++) {
+                if (wayAt < wayEnd) {
+                    int now = resting(wayAt);
+                    wayAt++;
+                    if (now == wayAt - 1 || board[now] < 0 || wayDepth >= DEPTH) {
+                        return now;
+                    }
+                    atBack[wayDepth] = wayAt;
+                    endBack[wayDepth] = wayEnd;
+                    wayDepth++;
+                    wayAt = now;
+                    wayEnd = signs.after(board, now);
+                } else if (wayDepth == 0) {
+                    return NONE;
+                } else {
+                    wayDepth--;
+                    wayAt = atBack[wayDepth];
+                    wayEnd = endBack[wayDepth];
+                }
+            }
+            return NONE;
+        }
+
+        /** Whether the row at s, as the second, MATCHES that at t, as the first; what stands already stays. */
+        boolean matches(int[] second, int s, int[] first, int t) {
             int a = s;
             int b = t;
             int open = 1;
-            while (open > 0 && a < board.length && b < SECOND) {
-                int place = board[a];
+            while (open > 0 && a < second.length && b < first.length) {
+                int place = second[a];
                 if (place >= 0) {
-                    if (place != board[b]) {
+                    if (place != first[b]) {
                         return false;
                     }
                     open += signs.partsOf(place) - 1;
                     b++;
                 } else {
-                    int end = signs.after(board, b);
-                    int there = stands[-1 - place];
+                    int end = signs.after(first, b);
+                    int letter = MOST_LETTERS - 1 - place;
+                    int there = stands[letter];
                     if (there == NONE) {
-                        tell(-1 - place, b);
-                    } else if (!alike(board, there, board, b, end - b)) {
+                        tell(letter, b);
+                    } else if (!alike(first, there, first, b, end - b)) {
                         return false;
                     }
                     b = end;
@@ -1108,10 +1109,10 @@ public final class ClaimHall {
             return open == 0;
         }
 
-        /** Whether something stands for each LETTER from .. to. */
-        boolean isTold(int from, int to) {
+        /** Whether something stands for each LETTER from .. to of the second row. */
+        boolean isTold(int[] second, int from, int to) {
             for (int at = from; at < to; at++) {
-                if (board[at] < 0 && stands[-1 - board[at]] == NONE) {
+                if (second[at] < 0 && stands[MOST_LETTERS - 1 - second[at]] == NONE) {
                     return false;
                 }
             }
@@ -1148,11 +1149,6 @@ public final class ClaimHall {
             }
             numberLetters(row);
             return letters <= MOST_LETTERS;
-        }
-
-        boolean isSorted(Row row, int i) {
-            int left = row.starts[i] + 1;
-            return scale.compare(row.places, left, row.places, signs.after(row.places, left)) == GREATER;
         }
 
         private void sortSides(Row row, int i) {
@@ -1214,8 +1210,6 @@ public final class ClaimHall {
             if (c.size > d.size || (c.marks & ~d.marks) != 0) {
                 return false;
             }
-            standing.layFirst(d);
-            standing.laySecond(c);
             standing.forget(0);
             int i = 0;
             tried[0] = 0;
@@ -1231,7 +1225,7 @@ public final class ClaimHall {
                 } else {
                     tried[i] = j + 1;
                     if (c.denied[i] == d.denied[j]
-                            && standing.matches(Standing.SECOND + c.starts[i], d.starts[j])) {
+                            && standing.matches(c.places, c.starts[i], d.places, d.starts[j])) {
                         i++;
                         tried[i] = 0;
                         toldAhead[i] = standing.tellings;
@@ -1294,7 +1288,7 @@ public final class ClaimHall {
             many = 0;
             for (int c = 0; c < shelf.kept; c++) {
                 Claim it = shelf.at(c);
-                if (it != null && it.isThere() && it.isRule()) {
+                if (it != null && it.isThere() && it.rule) {
                     list(it, 0);
                     if (!it.sorted) {
                         list(it, 1);
@@ -1307,7 +1301,7 @@ public final class ClaimHall {
             if (many < rules.length) {
                 rules[many] = rule.number;
                 sides[many] = side;
-                heads[many] = rule.row.places[side == 0 ? 1 : signs.after(rule.row.places, 1)];
+                heads[many] = rule.row.places[side == 0 ? 1 : rule.right];
                 many++;
             }
         }
@@ -1327,7 +1321,6 @@ public final class ClaimHall {
 
         /** Looks for the first REWRITING there is, and tells it behind those that were done. */
         private boolean findFirst(Row row) {
-            standing.layFirst(row);
             for (int j = 0; j < row.size && many > 0; j++) {
                 for (int at = row.starts[j] + 1; at < row.starts[j + 1]; at++) {
                     int place = row.places[at];
@@ -1359,25 +1352,25 @@ public final class ClaimHall {
             return row.replace(j, at, signs.after(row.places, at), standing.written, standing.length);
         }
 
-        /** Whether a side of CLAIM r may be rewritten at a place of the row that is laid; writes what stands there then. */
+        /** Whether a side of CLAIM r rewrites the TERM at a place of the row; writes what stands there then. */
         private boolean fits(int r, int side, Row row, int at) {
             Claim it = shelf.at(r);
-            if (it == null || !it.isRule()) {
+            if (it == null || !it.rule) {
                 return false;
             }
-            Row rule = it.row;
-            standing.laySecond(rule);
+            int[] places = it.row.places;
+            int l = side == 0 ? 1 : it.right;
+            int other = side == 0 ? it.right : 1;
+            int end = side == 0 ? it.row.starts[1] : it.right;
             standing.forget(0);
-            int right = signs.after(rule.places, 1);
-            int from = Standing.SECOND + (side == 0 ? 1 : right);
-            int other = Standing.SECOND + (side == 0 ? right : 1);
-            int end = Standing.SECOND + (side == 0 ? rule.starts[1] : right);
-            if (!standing.matches(from, at) || !standing.isTold(other, end)) {
+            if (!standing.matches(places, l, row.places, at) || !standing.isTold(places, other, end)) {
                 return false;
             }
+            standing.layFirst(row);
+            standing.laySecond(it.row);
             standing.length = 0;
-            return standing.write(other, end, Standing.ROOM)
-                    && scale.compare(row.places, at, standing.written, 0) == GREATER;
+            return standing.write(Standing.SECOND + other, Standing.SECOND + end, Standing.ROOM)
+                    && (it.sorted && side == 0 || scale.compare(row.places, at, standing.written, 0) == GREATER);
         }
 
         /** Does REWRITING k of the CLAIM again, by CLAIMS with numbers below; false if it is none. */
@@ -1397,7 +1390,6 @@ public final class ClaimHall {
             if (row.places[at] < 0) {
                 return false;
             }
-            standing.layFirst(row);
             return fits(r, side, row, at) && replace(row, j, at);
         }
     }
