@@ -20,7 +20,8 @@ public final class AgainstPlainTest {
   private static final int[] SEEN = new int[16];
 
   private AgainstPlainTest(long seed) {
-    dice = new Random(seed);
+    // near seeds would begin alike
+    dice = new Random(seed * 0x9E3779B97F4A7C15L);
   }
 
   private long same(String call, long got, long want) {
@@ -75,9 +76,52 @@ public final class AgainstPlainTest {
     setFuel(300);
   }
 
+  /** A heavy FUNCTION that REWRITING turns into many light ones. */
+  private void setUpHeavy() {
+    letters = chance(1, 3);
+    termSize = chance(8, 24);
+    mostLiterals = below(3) == 0 ? 2 : 1;
+    equalities = chance(20, 70);
+    denials = chance(0, 50);
+    sign(false, 0, 1);
+    sign(false, 3, 1);
+    sign(false, 1, 9);
+    sign(false, 2, below(2) == 0 ? 1 : 9);
+    sign(true, 1, 1);
+    sayings.add(new int[] {0, 2});
+    setFuel(300);
+    for (int v : new int[] {1000, 3, -1, 2, -1, 1, -1}) draft(v);
+    given();
+  }
+
+  /** So many LETTERS that two CLAIMS have more than 20 together. */
+  private void setUpLetters() {
+    letters = 20;
+    termSize = chance(6, 12);
+    mostLiterals = chance(2, 4);
+    equalities = below(30);
+    denials = chance(20, 50);
+    sign(false, 3, 1);
+    sign(false, 0, 1);
+    sign(false, 3, 2);
+    sign(true, 3, 1);
+    sign(true, 2, 1);
+    sign(true, 0, 1);
+    setFuel(300);
+  }
+
   private void setUp() {
-    if (below(6) == 0) {
+    int kind = below(16);
+    if (kind < 3) {
       setUpLong();
+      return;
+    }
+    if (kind < 6) {
+      setUpHeavy();
+      return;
+    }
+    if (kind < 7) {
+      setUpLetters();
       return;
     }
     letters = chance(1, below(4) == 0 ? 20 : 4);
@@ -111,7 +155,7 @@ public final class AgainstPlainTest {
           return;
         }
       }
-      row.add(functions.get(0)[0]);
+      row.add(-1 - below(letters));
       return;
     }
     int[] f = functions.get(below(functions.size()));
@@ -212,7 +256,7 @@ public final class AgainstPlainTest {
 
   public static void main(String[] args) {
     long first = args.length > 0 ? Long.parseLong(args[0]) : 1;
-    long last = args.length > 1 ? Long.parseLong(args[1]) : 400;
+    long last = args.length > 1 ? Long.parseLong(args[1]) : 600;
     int wrongs = 0;
     for (long seed = first; seed <= last && wrongs < 3; seed++) {
       AgainstPlainTest one = new AgainstPlainTest(seed);
