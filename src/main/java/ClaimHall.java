@@ -38,7 +38,9 @@ public final class ClaimHall {
     /** Where a STEP of each KIND names its first and its second CLAIM; 0 where it names none. */
     private static final int[] FIRST_NAME = {0, 1, 1, 1, 1};
     private static final int[] SECOND_NAME = {0, 3, 0, 0, 4};
-    private static final int STEP_ROOM = 10;
+    /** The KIND and the six numbers of the longest KIND; step() tells of nothing between these and REWRITINGS. */
+    private static final int STEP_ROOM = 7;
+    private static final int HOW_MANY_REWRITINGS = 10;
     private static final int FIRST_REWRITING = 11;
     private static final int REWRITING_NUMBERS = 4;
 
@@ -199,7 +201,7 @@ public final class ClaimHall {
         if (what < STEP_ROOM) {
             return it.numbers[what];
         }
-        if (what == STEP_ROOM) {
+        if (what == HOW_MANY_REWRITINGS) {
             return it.rewritings;
         }
         return it.hasRewritingNumber(what) ? it.rewriting[what - FIRST_REWRITING] : LEAST;
@@ -330,11 +332,11 @@ public final class ClaimHall {
 
     private long digestStep(long before, int c) {
         long h = before;
-        for (int what = 0; what <= 6; what++) {
+        for (int what = 0; what < STEP_ROOM; what++) {
             h = 31L * h + step(c, what);
         }
-        int last = STEP_ROOM + REWRITING_NUMBERS * step(c, STEP_ROOM);
-        for (int what = STEP_ROOM; what <= last; what++) {
+        int last = HOW_MANY_REWRITINGS + REWRITING_NUMBERS * step(c, HOW_MANY_REWRITINGS);
+        for (int what = HOW_MANY_REWRITINGS; what <= last; what++) {
             h = 31L * h + step(c, what);
         }
         return h;

@@ -91,6 +91,7 @@ public final class AsksTest {
     Due.due("KIND stays", x.forge(2, 0, 2), BAD);
     Due.due("how many REWRITINGS stays", x.forge(2, 10, 1), BAD);
     Due.due("it has no fourth", x.forge(2, 4, 0), BAD);
+    for (int what = 7; what < 10; what++) Due.due("no KIND has " + what, x.forge(2, what, 0), BAD);
     Due.due("no REWRITING", x.forge(2, 11, 0), BAD);
     Due.due("-1", x.forge(2, -1, 0), BAD);
     Due.due("GIVEN has none", x.forge(0, 1, 0), BAD);

@@ -29,10 +29,12 @@ final class Due {
     }
   }
 
+  /** The numbers of a STEP are as due: 0 those of 1 to 6 that its KIND has not; 7 to 9 no KIND has. */
   static void step(String name, ClaimHall x, int c, int... numbers) {
-    for (int k = 0; k < 10; k++) {
+    for (int k = 0; k < 7; k++) {
       due(name + ": step(" + c + ", " + k + ")", x.step(c, k), k < numbers.length ? numbers[k] : 0);
     }
+    for (int k = 7; k < 10; k++) due(name + ": step(" + c + ", " + k + ")", x.step(c, k), Integer.MIN_VALUE);
   }
 
   static void counts(String name, ClaimHall x, int... counts) {

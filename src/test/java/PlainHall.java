@@ -554,7 +554,7 @@ final class PlainHall {
     if (!is(c, kept.size()) || what < 0) return Integer.MIN_VALUE;
     Kept k = kept.get(c);
     if (what < 7) return k.step[what];
-    if (what < 10) return 0;
+    if (what < 10) return Integer.MIN_VALUE;
     if (what == 10) return k.rewritings.size();
     return is((what - 11) / 4, k.rewritings.size()) ? k.rewritings.get((what - 11) / 4)[(what - 11) % 4] : Integer.MIN_VALUE;
   }
