@@ -110,8 +110,34 @@ public final class AgainstPlainTest {
     setFuel(300);
   }
 
+  /** CLAIMS of which each PICK makes more, so that the 150 come near. */
+  private void setUpMany() {
+    letters = 3;
+    termSize = 3;
+    mostLiterals = 2;
+    equalities = 0;
+    denials = 40;
+    sign(false, 0, 1);
+    sign(false, 1, chance(1, 2));
+    sign(true, 3, 1);
+    for (int n = chance(0, 4); n > 0; n--) sign(true, 0, chance(1, 9));
+    setFuel(chance(300, 900));
+    int[][] all = {{1003, 1, 1, 1}, {2003, -1, -2, -3, 1003, 2, -1, -2, -3}, {2003, -1, -2, -3, 1003, -1, 2, -2, -3},
+        {2003, -1, -2, -3, 1003, -1, -2, 2, -3}};
+    for (int[] one : all) {
+      for (int v : one) draft(v);
+      given();
+    }
+    note(run(below(3) == 0 ? 200 : chance(20, 70)));
+  }
+
   private void setUp() {
-    int kind = below(16);
+    int kind = below(48);
+    if (kind == 0) {
+      setUpMany();
+      return;
+    }
+    kind /= 3;
     if (kind < 3) {
       setUpLong();
       return;
@@ -200,7 +226,9 @@ public final class AgainstPlainTest {
     int c = chance(-1, kept), d = chance(-1, kept), i = chance(-1, 3), j = chance(-1, 3), what = chance(-1, 45);
     switch (below(12)) {
       case 0: same("claim(" + c + ", " + i + ")", hall.claim(c, i + 2), plain.claim(c, i + 2)); break;
-      case 1: same("literal(" + c + ", " + i + ", " + what + ")", hall.literal(c, i, what), plain.literal(c, i, what)); break;
+      case 1:
+        same("literal(" + c + ", " + i + ", " + what + ")", hall.literal(c, i, what), plain.literal(c, i, what));
+        break;
       case 2: same("step(" + c + ", " + what + ")", hall.step(c, what), plain.step(c, what)); break;
       case 3: case 4: case 5: same("judge(" + c + ")", hall.judge(c), plain.judge(c)); break;
       case 6: case 7: same("proof(" + what + ")", hall.proof(what), plain.proof(what)); break;
@@ -247,11 +275,11 @@ public final class AgainstPlainTest {
     SEEN[6] += plain.made;
     SEEN[7] += plain.rewritten;
     SEEN[8] += plain.count(4);
-    if (plain.kept.size() == 150) SEEN[9]++;
   }
 
   private void note(int end) {
     if (end >= 0 && end < 4) SEEN[end]++;
+    if (plain.kept.size() == 150) SEEN[9]++;
   }
 
   public static void main(String[] args) {

@@ -1,27 +1,11 @@
-/** Promises 10 to 19: claim, literal, step, forge, judge, proof, order, takesIn, count, digest; and the constants. */
+/** Promises 10 to 19: claim, literal, step, forge, judge, proof, order, takesIn, count, digest. */
 public final class AsksTest {
   private static final int NONE = -1, BAD = -2;
   private static final int LEAST = Integer.MIN_VALUE;
 
   /** 1, 2 constants, 3 unary (weight 2), 4 binary functions; sayings 5 without parts, 6, 7 with one, 8 with two. */
   private static ClaimHall hall() {
-    ClaimHall x = new ClaimHall();
-    x.sign(false, 0, 1);
-    x.sign(false, 0, 1);
-    x.sign(false, 1, 2);
-    x.sign(false, 2, 1);
-    x.sign(true, 0, 3);
-    x.sign(true, 1, 1);
-    x.sign(true, 1, 4);
-    x.sign(true, 2, 1);
-    return x;
-  }
-
-  private static void constants() {
-    Due.due("NONE", ClaimHall.NONE, -1);
-    Due.due("BAD", ClaimHall.BAD, -2);
-    Due.due("STATE", ClaimHall.STATE, -3);
-    Due.due("FULL", ClaimHall.FULL, -4);
+    return Due.hall("f0 f0 f1:2 f2 s0:3 s1 s1:4 s2");
   }
 
   private static void claim() {
@@ -326,7 +310,6 @@ public final class AsksTest {
   }
 
   public static void main(String[] args) {
-    constants();
     claim();
     literal();
     step();

@@ -187,6 +187,32 @@ public final class EdgeAsksTest {
     Due.due("END 3", spent.proof(0), NONE);
   }
 
+  /** Promise 15: "(itself, what its STEP and REWRITINGS name, and so on)" */
+  private static void proofByRewritings() {
+    ClaimHall x = hall();
+    Due.give(x, 1000, B, A);
+    Due.give(x, 1000 + S);
+    Due.give(x, 1000 + Q, F, B, A, 1000 + P, A);
+    Due.give(x, 1000, F, F, A, F, A);
+    Due.give(x, 2000, F, F, B, F, A);
+    Due.due("PROVED by two REWRITINGS", x.count(10), 1);
+    Due.rewritings("two rules", x, 4, 0, 0, 0, 3, 3, 0, 0, 1);
+    int[] all = {0, 3, 4};
+    for (int k = 0; k < 3; k++) Due.due("proof(" + k, x.proof(k), all[k]);
+    Due.due("no more", x.proof(3), NONE);
+    for (int n = 0; n < 100; n++) Due.due("as often as it is asked", x.proof(n % 3), all[n % 3]);
+    ClaimHall y = hall();
+    y.turns(0);
+    Due.give(y, 1000, B, A);
+    Due.give(y, 1000 + P, B);
+    Due.give(y, 1000 + S);
+    Due.give(y, 2000 + P, X);
+    Due.due("PROVED", y.run(9), 1);
+    int[] soOn = {0, 1, 3, 4};
+    for (int k = 0; k < 4; k++) Due.due("proof(" + k, y.proof(k), soOn[k]);
+    Due.due("no more", y.proof(4), NONE);
+  }
+
   /** Promise 15: "(itself, what its STEP and REWRITINGS name, and so on)", of what is forged */
   private static void proofOfForged() {
     ClaimHall x = hall();
@@ -318,6 +344,7 @@ public final class EdgeAsksTest {
     eightRewritings();
     noSuchClaim();
     proof();
+    proofByRewritings();
     proofOfForged();
     order();
     takesIn();

@@ -132,6 +132,23 @@ public final class EdgeGivenTest {
     Due.due("200 numbers", x.given(), -280);
   }
 
+  /** "A CLAIM is a row of LITERALS, 6 at most.", each with "30 at most": CLEANING and REWRITING of the longest ones */
+  private static void longestCleaned() {
+    ClaimHall x = Due.hall("f0 f1 f0 s1");
+    for (int n = 0; n < 6; n++) for (int v : Due.chain(1004, 2, 28, n == 1 ? -1 : -1 - n)) x.draft(v);
+    Due.due("the second is like the first", x.given(), 0);
+    Due.due("LITERALS", x.claim(0, 0), 5);
+    Due.due("the last PLACE of all", x.literal(0, 4, 31), -5);
+    x.clear();
+    Due.give(x, 1000, 3, 1);
+    for (int n = 0; n < 6; n++) for (int v : Due.chain(1004, 2, 28, n == 0 ? 3 : -n)) x.draft(v);
+    Due.due("the first is rewritten", x.given(), 1);
+    Due.rewritings("the first is rewritten", x, 1, 0, 0, 0, 29);
+    Due.due("its last PLACE", x.literal(1, 0, 31), 1);
+    Due.due("the last PLACE of all", x.literal(1, 5, 31), -5);
+    Due.due("judge", x.judge(1), 1);
+  }
+
   /** "The DRAFT is empty then." */
   private static void draftIsEmptyThen() {
     ClaimHall x = Due.hall("f0 f3 f1:9 f1 s1");
@@ -227,6 +244,7 @@ public final class EdgeGivenTest {
     thirtyFirstPlace();
     thirtyFirstOfEqual();
     longest();
+    longestCleaned();
     draftIsEmptyThen();
     refusedAtEachEnd();
     hundredAndFifty();

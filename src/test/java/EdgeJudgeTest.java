@@ -47,6 +47,31 @@ public final class EdgeJudgeTest {
     judged("n is the CLAIM itself, or none", x, 3, 3, 0, 3, 4, -1, 5, 150, LEAST, MOST);
   }
 
+  /** "(what it names are CLAIMS with lesser numbers": not the CLAIM itself, which would make itself again */
+  private static void makesItself() {
+    ClaimHall x = hall();
+    Due.give(x, 2000 + P, X, 1000 + P, Y);
+    Due.give(x, 1000 + P, A);
+    x.run(2);
+    Due.step("CLASH", x, 2, 1, 1, 0, 0);
+    judged("p is the CLAIM itself", x, 2, 1, 0, 2);
+    ClaimHall y = hall();
+    Due.give(y, 1000, F, X, F, Y, 1000 + S);
+    Due.give(y, 1000 + P, F, B);
+    y.run(2);
+    Due.step("TURN", y, 2, 4, 0, 0, 0, 1, 0, 1);
+    y.forge(2, 5, 1);
+    y.forge(2, 4, 2);
+    Due.due("n is the CLAIM itself", y.judge(2), 0);
+    ClaimHall z = hall();
+    Due.give(z, 1000, F, F, X, F, X);
+    Due.give(z, 1000, F, F, A, A);
+    Due.rewritings("by a wider rule", z, 1, 0, 0, 0, 1);
+    z.forge(1, 14, 2);
+    z.forge(1, 11, 1);
+    Due.due("r is the CLAIM itself", z.judge(1), 0);
+  }
+
   /** "LITERALS, PLACES that there are" */
   private static void clashOfLiterals() {
     ClaimHall x = clashed();
@@ -77,6 +102,14 @@ public final class EdgeJudgeTest {
     x.run(2);
     Due.step("CLASH", x, 3, 1, 1, 0, 2);
     judged("7 LITERALS, cleaned the same four", x, 3, 3, 0, 0);
+    ClaimHall y = Due.hall("f2 s1 s1 s0");
+    y.turns(0);
+    Due.give(y, Due.row(2004), Due.letters(1003, 1, 0, 11));
+    Due.give(y, Due.row(2004), Due.letters(1003, 1, 0, 10));
+    Due.give(y, Due.row(1004), Due.letters(1002, 1, 0, 10));
+    y.run(3);
+    Due.step("CLASH", y, 3, 1, 2, 0, 1);
+    judged("21 LETTERS", y, 3, 3, 0, 0);
   }
 
   /** "2 FACTOR (p, i, j), i less than j" */
@@ -209,6 +242,51 @@ public final class EdgeJudgeTest {
     Due.due("the same one twice", x.judge(2), 0);
   }
 
+  /** "each REWRITING as it stands": one that is none is not left out, though without it the same would come */
+  private static void noneIsLeftOut() {
+    ClaimHall x = hall();
+    Due.give(x, 1000, F, A, B);
+    Due.give(x, 1000, F, X, A);
+    Due.give(x, 1000, B, A);
+    Due.give(x, 1000 + R, F, A, X);
+    Due.rewritings("to B, then to A", x, 3, 0, 0, 0, 1, 2, 0, 0, 1);
+    judged("to A at once, and B is not there then", x, 3, 11, 0, 1);
+    x.forge(3, 11, 1);
+    int[][] none = {{15, 3, -1, 4}, {16, 1, 2, -1}, {17, 1, -1}, {18, 0, 2, 3, -1}};
+    for (int[] row : none) {
+      int was = x.step(3, row[0]);
+      for (int k = 1; k < row.length; k++) {
+        x.forge(3, row[0], row[k]);
+        Due.due("a second one that is none: " + row[0] + " is " + row[k], x.judge(3), 0);
+      }
+      x.forge(3, row[0], was);
+    }
+  }
+
+  /** "and with that for them l is GREATER than the other side", of a REWRITING that is forged */
+  private static void rewritingToGreater() {
+    ClaimHall x = hall();
+    Due.give(x, 1000, F, A, B);
+    Due.give(x, 1000, F, B, A);
+    Due.give(x, 1000, B, A);
+    Due.give(x, 1000 + P, F, A);
+    Due.rewritings("to B, then to A", x, 3, 0, 0, 0, 1, 2, 0, 0, 1);
+    x.forge(3, 11, 2);
+    x.forge(3, 12, 1);
+    x.forge(3, 14, 2);
+    x.forge(3, 15, 1);
+    Due.due("A to B, which is GREATER, then to A", x.judge(3), 0);
+  }
+
+  /** "its side (0 left, 1 right)" */
+  private static void rewritingSides() {
+    ClaimHall x = Due.hall("f0 f0 f2 s1");
+    Due.give(x, 1000, 3, 1, -1, 3, -1, 1);
+    Due.give(x, 1004, 3, 2, 1);
+    Due.rewritings("by the right side", x, 1, 0, 1, 0, 1);
+    judged("by the left one, or none", x, 1, 12, 0, 0, 2, 3, -1, LEAST, MOST);
+  }
+
   /** "CLEANING behind each" */
   private static void cleanedBehindEach() {
     ClaimHall x = hall();
@@ -247,11 +325,34 @@ public final class EdgeJudgeTest {
     x.run(3);
     Due.step("CLASH", x, 3, 1, 0, 0, 2);
     judged("the same in another order", x, 3, 1, 0, 1);
+    ClaimHall y = hall();
+    Due.give(y, 1000 + P, A, 1000 + S, 1000 + T);
+    Due.give(y, 1000 + P, F, A, 1000 + S, 1000 + T, 1000 + U);
+    Due.give(y, 1000 + P, B, 1000 + S);
+    Due.give(y, 2000 + P, X);
+    y.run(4);
+    Due.step("CLASH", y, 4, 1, 0, 0, 3);
+    judged("one LITERAL less, and one more", y, 4, 1, 0, 2, 1);
+    ClaimHall z = hall();
+    Due.give(z, 2000 + P, X, 1000 + T);
+    Due.give(z, 2000 + P, X, 2000 + T);
+    Due.give(z, 1000 + P, A, 1000 + S);
+    z.run(3);
+    Due.step("CLASH", z, 3, 1, 2, 0, 0);
+    judged("denied for said", z, 3, 3, 0, 1);
+    z.clear();
+    Due.give(z, 2000 + P, X, 1000 + T);
+    Due.give(z, 2000 + P, X, 2000 + T);
+    Due.give(z, 1000 + P, A);
+    z.run(3);
+    Due.step("CLASH", z, 3, 1, 2, 0, 0);
+    judged("denied for said, the only one", z, 3, 3, 0, 1);
     for (int c : new int[] {LEAST, -1, x.count(1), 150, MOST}) Due.refused("judge(" + c, x, () -> x.judge(c), -2);
   }
 
   public static void main(String[] args) {
     clashOfLesserNumbers();
+    makesItself();
     clashOfLiterals();
     putAwayOrNot();
     notLost();
@@ -263,6 +364,9 @@ public final class EdgeJudgeTest {
     turnIntoAnother();
     given();
     rewritingNumbers();
+    noneIsLeftOut();
+    rewritingToGreater();
+    rewritingSides();
     cleanedBehindEach();
     rewritingTooLong();
     placeByPlace();

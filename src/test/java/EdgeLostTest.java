@@ -37,7 +37,8 @@ public final class EdgeLostTest {
     made("CLASH, 6", six, 1, 0, 0, 3);
     Due.due("LITERALS", six.claim(2, 0), 6);
     made("CLASH, 7", both(Pairs.hall(), p, Due.row(2001, 1005, 1006, 1007, 1008)), 1, 1, 0, 2);
-    made("CLASH, 7, of which cleaned 4 would be left", both(Pairs.hall(), p, Due.row(2001, 1002, 1003, 1004, 1005)), 1, 1, 0, 2);
+    ClaimHall seven = both(Pairs.hall(), p, Due.row(2001, 1002, 1003, 1004, 1005));
+    made("CLASH, 7, of which cleaned 4 would be left", seven, 1, 1, 0, 2);
     made("CLASH, 10", both(Pairs.hall(), Due.row(1001, 1002, 1003, 1004, 1005, 1006),
         Due.row(2001, 1007, 1008, 1009, 1010, 1011)), 1, 1, 0, 2);
   }
@@ -92,7 +93,8 @@ public final class EdgeLostTest {
     ClaimHall most = both(Due.hall(signs), p, join(Due.chain(1005, 4, 25, 3), Due.row(1)));
     made("TURN, 30; and with itself", most, 2, 0, 1, 3);
     Due.due("PLACES", most.literal(2, 1, 1), 30);
-    made("TURN, 31; and with itself", both(Due.hall(signs), p, join(Due.chain(1005, 4, 26, 3), Due.row(1))), 2, 1, 1, 2);
+    ClaimHall more = both(Due.hall(signs), p, join(Due.chain(1005, 4, 26, 3), Due.row(1)));
+    made("TURN, 31; and with itself", more, 2, 1, 1, 2);
   }
 
   /** "one of more than 30 PLACES", also if CLEANING would take it away */

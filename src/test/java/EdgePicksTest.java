@@ -367,6 +367,12 @@ public final class EdgePicksTest {
     Pairs.give(made, 149);
     Due.due("PROVED by a CLASH", made.run(2), 1);
     Due.due("KEPT", made.count(1), 150);
+    Due.due("the first it comes from", made.proof(0), 0);
+    made.forge(149, 3, 150);
+    made.forge(149, 1, 148);
+    Due.due("forged to the last but one, and to none", made.proof(0), 148);
+    Due.due("itself", made.proof(1), 149);
+    Due.due("no more", made.proof(2), NONE);
     Due.due("clear", made.clear(), 150);
   }
 
@@ -400,6 +406,29 @@ public final class EdgePicksTest {
     Due.due("END", x.count(10), 0);
   }
 
+  /** Promise 9: "No CLAIMS, none KEPT": a number that is used again has nothing of the CLAIM that had it */
+  private static void numbersAgain() {
+    ClaimHall x = hall();
+    x.turns(0);
+    Due.give(x, 1000 + P, A);
+    Due.give(x, 2000 + P, F, A);
+    Due.give(x, 1000 + S, 1000 + T);
+    Due.give(x, 1000 + S);
+    x.run(1);
+    Due.due("PUT AWAY", x.claim(2, 3), 3);
+    x.clear();
+    Due.give(x, 1000 + P, A, 1000 + S);
+    Due.give(x, 2000 + P, X);
+    Due.due("WAITS", x.claim(0, 2), 0);
+    x.run(2);
+    Due.step("it is a CLASH now", x, 2, 1, 0, 0, 1);
+    Due.due("it WAITS", x.claim(2, 2), 0);
+    Due.due("by none", x.claim(2, 3), NONE);
+    Due.due("judged by its STEP", x.judge(2), 1);
+    x.forge(2, 3, 0);
+    Due.due("not by what was given once", x.judge(2), 0);
+  }
+
   public static void main(String[] args) {
     turns();
     fuel();
@@ -424,6 +453,7 @@ public final class EdgePicksTest {
     hundredAndFiftyInAPick();
     hundredAndFiftieth();
     clear();
+    numbersAgain();
     Due.end("EdgePicksTest");
   }
 }

@@ -52,7 +52,8 @@ public final class EdgeRewritingTest {
     becomes("of two LITERALS", rules(Due.row(1000, F, A, A, 1000 + S)), Due.row(F, A), Due.row(F, A));
     becomes("a denied EQUAL", rules(Due.row(2000, F, A, A)), Due.row(F, A), Due.row(F, A));
     becomes("another SAYING", rules(Due.row(1000 + Q, F, A, A)), Due.row(F, A), Due.row(F, A));
-    becomes("of two, of which one goes", rules(Due.row(1000, F, A, A, 2000, B, B)), Due.row(F, A), Due.row(A), 0, 0, 0, 1);
+    ClaimHall one = rules(Due.row(1000, F, A, A, 2000, B, B));
+    becomes("of two, of which one goes", one, Due.row(F, A), Due.row(A), 0, 0, 0, 1);
   }
 
   /** "its side (0 left, 1 right) l MATCHES the TERM at a PLACE (1 and more, no LETTER) of LITERAL j" */
@@ -61,6 +62,9 @@ public final class EdgeRewritingTest {
     becomes("a LETTER stays", rules(Due.row(1000, X, A)), Due.row(X), Due.row(-1));
     becomes("the last PLACE", rules(Due.row(1000, B, A)), Due.row(G, A, F, B), Due.row(G, A, F, A), 0, 0, 0, 4);
     becomes("it does not MATCH a LETTER in the TERM", rules(Due.row(1000, F, A, A)), Due.row(F, X), Due.row(F, -1));
+    ClaimHall twice = rules(Due.row(1000, F, X, X));
+    int[] term = {G, F, A, F, B};
+    becomes("another TERM for its LETTER each time", twice, term, Due.row(G, A, B), 0, 0, 0, 2, 0, 0, 0, 3);
     becomes("side 1", rules(Due.row(1000, G, A, X, G, X, A)), Due.row(G, B, A), Due.row(G, A, B), 0, 1, 0, 1);
   }
 

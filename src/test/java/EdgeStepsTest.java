@@ -136,6 +136,30 @@ public final class EdgeStepsTest {
     y.run(2);
     Due.step("side 1", y, 2, 4, 0, 0, 1, 1, 0, 1);
     Due.literal("side 1", y, 2, 1, false, P, G, A, B);
+    for (int side : new int[] {Integer.MIN_VALUE, -1, 2, Integer.MAX_VALUE}) {
+      y.forge(2, 3, side);
+      Due.due("there is no side " + side, y.judge(2), 0);
+    }
+    y.forge(2, 3, 1);
+    Due.due("side 1 again", y.judge(2), 1);
+  }
+
+  /** "by i, sides, j, PLACES" */
+  private static void turnOrder() {
+    ClaimHall x = Due.hall("f0 f0 f0 f0 f1 s2 s0");
+    x.turns(0);
+    Due.give(x, 1000, 2, 1, 1007, 1000, 4, 3);
+    Due.give(x, 1006, 4, 5, 2, 1006, 2, 4);
+    x.run(2);
+    Due.step("the first EQUAL, the last PLACE of the first LITERAL", x, 2, 4, 0, 0, 0, 1, 0, 3);
+    Due.step("the first PLACE of the second", x, 3, 4, 0, 0, 0, 1, 1, 1);
+    Due.step("the second EQUAL", x, 4, 4, 0, 2, 0, 1, 0, 1);
+    Due.step("the last PLACE of the second", x, 5, 4, 0, 2, 0, 1, 1, 2);
+    Due.literal("the LITERALS of p but i", x, 5, 0, false, 0, 2, 1);
+    Due.literal("the LITERALS of p but i", x, 5, 1, false, 7);
+    Due.literal("then those of n", x, 5, 2, false, 6, 4, 5, 2);
+    Due.literal("in whose LITERAL j r stands at that PLACE", x, 5, 3, false, 6, 2, 3);
+    made("with itself twice", x, 6, 0, 2, 6);
   }
 
   /** "place (1 and more) a PLACE in it at which no LETTER is" */
@@ -179,6 +203,13 @@ public final class EdgeStepsTest {
     turned("they are alike, by both sides", 2, Due.row(G, X, Y, G, Y, X), Due.row(G, B, B));
     turned("r is less under it, by both sides", 2, Due.row(G, X, Y, G, Y, X), Due.row(G, B, A));
     turned("r is GREATER under it, by both sides", 0, Due.row(G, X, Y, G, Y, X), Due.row(G, A, B));
+    ClaimHall x = hall();
+    x.turns(0);
+    Due.give(x, 1000 + P, F, X, 1000 + Q, X, X);
+    Due.give(x, 1000, F, X, F, F, A, 1000 + S);
+    x.run(2);
+    Due.step("r is heavier, but the LETTER of n stands in l alone", x, 2, 4, 1, 0, 0, 0, 0, 1);
+    Due.literal("r stands there then", x, 2, 1, false, P, F, F, A);
   }
 
   /** From an EQUAL with these sides into P of a TERM so many STEPS are made. */
@@ -201,6 +232,7 @@ public final class EdgeStepsTest {
     factor();
     drop();
     turnSides();
+    turnOrder();
     turnPlaces();
     turnIntoChosen();
     turnNotGreater();

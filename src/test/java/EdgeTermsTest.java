@@ -117,6 +117,16 @@ public final class EdgeTermsTest {
     standing("from then on: another", false, Due.row(X, X), Due.row(A, B));
     standing("in all", true, Due.row(G, X, Y, G, Y, X), Due.row(G, A, Z, G, B, W));
     standing("in all, at the last PLACE", false, Due.row(G, X, Y, G, Y, X), Due.row(G, A, B, G, B, B));
+    standing("what stands for it has LETTERS", true, Due.row(X, X), Due.row(G, A, Y, G, Z, B));
+    standing("what stands for it is another TERM", false, Due.row(X, X), Due.row(G, A, Y, G, B, Z));
+    standing("what stands for it is another FUNCTION", false, Due.row(X, X), Due.row(F, Y, H, Z));
+    standing("on behind it", true, Due.row(G, X, X, A), Due.row(G, F, Y, F, Z, A));
+    standing("on behind it, to what is unlike", false, Due.row(G, X, X, A), Due.row(G, F, Y, F, Z, B));
+    standing("of the second: what stands for it has LETTERS", true, Due.row(G, A, Y, G, Z, B), Due.row(X, X));
+    standing("of the second: on behind it", true, Due.row(G, F, Y, F, Z, A), Due.row(G, X, X, A));
+    standing("of the second: to what is unlike", false, Due.row(G, F, Y, F, Z, A), Due.row(G, X, X, B));
+    standing("both stand for something", true, Due.row(G, X, Y, G, Y, X), Due.row(G, F, Z, F, W, G, F, A, F, B));
+    standing("both do, and differ", false, Due.row(G, X, Y, G, Y, X), Due.row(G, F, Z, F, Z, G, F, A, F, B));
   }
 
   /** "(none, if that LETTER is in it)" */
@@ -194,8 +204,11 @@ public final class EdgeTermsTest {
     leaves("denied and said", Due.row(2000 + P, X), Due.row(1000 + P, A));
     leaves("said and denied", Due.row(1000 + P, X), Due.row(2000 + P, A));
     takes("both denied", Due.row(2000 + P, X), Due.row(2000 + P, A));
-    leaves("one of its two is not there", Due.row(1000 + S, 1000 + P, B), Due.row(1000 + S, 1000 + P, A, 1000 + P, F, B));
+    leaves("one of its two is not there", Due.row(1000 + S, 1000 + P, B),
+        Due.row(1000 + S, 1000 + P, A, 1000 + P, F, B));
     leaves("the same stands in both", Due.row(1000 + P, X, 2000 + Q, X, X), Due.row(1000 + P, A, 2000 + Q, B, B));
+    takes("a try that fails at its last PLACE is taken back", Due.row(1000 + Q, X, A),
+        Due.row(1000 + Q, B, B, 1000 + Q, F, B, A));
     takes("the second try stands", Due.row(1000 + P, X, 2000 + Q, X, X),
         Due.row(1000 + P, A, 1000 + P, B, 2000 + Q, B, B));
     leaves("sides are not exchanged for it", Due.row(1000, F, X, G, Y, Z), Due.row(1000, G, A, A, F, B));

@@ -1,70 +1,10 @@
-/** Promises 6 to 9: turns, fuel, run, clear; and the STEPS of each KIND, as run makes them. */
+/** Promises 8 and 9, run and clear, and the STEPS of each KIND, with ordinary inputs; the edges are in EdgePicksTest. */
 public final class PicksTest {
-  private static final int NONE = -1, BAD = -2, STATE = -3;
+  private static final int NONE = -1, STATE = -3;
 
   /** 1, 2 constants, 3 unary, 4 binary functions; sayings 5 without parts, 6 and 7 with one, 8 with two; 9 as 5. */
   private static ClaimHall hall() {
-    ClaimHall x = new ClaimHall();
-    x.sign(false, 0, 1);
-    x.sign(false, 0, 1);
-    x.sign(false, 1, 1);
-    x.sign(false, 2, 1);
-    x.sign(true, 0, 1);
-    x.sign(true, 1, 1);
-    x.sign(true, 1, 2);
-    x.sign(true, 2, 1);
-    x.sign(true, 0, 1);
-    return x;
-  }
-
-  private static void turnsAndFuel() {
-    ClaimHall x = new ClaimHall();
-    Due.due("turns -1", x.turns(-1), BAD);
-    Due.due("turns 21", x.turns(21), BAD);
-    Due.due("turns 20", x.turns(20), 4);
-    Due.due("turns 0", x.turns(0), 20);
-    Due.due("turns 3", x.turns(3), 0);
-    Due.due("fuel -1", x.fuel(-1), BAD);
-    Due.due("fuel 4001", x.fuel(4001), BAD);
-    Due.due("fuel 4000", x.fuel(4000), 2000);
-    Due.due("fuel 0", x.fuel(0), 4000);
-    Due.due("fuel 1", x.fuel(1), 0);
-  }
-
-  private static void runNumbers() {
-    ClaimHall x = hall();
-    Due.due("run 0", x.run(0), BAD);
-    Due.due("run 201", x.run(201), BAD);
-    Due.due("refused: the END stays", x.count(10), 0);
-    Due.give(x, 1005);
-    Due.due("one PICK", x.run(1), 0);
-    Due.due("none WAITS, but that is not seen yet", x.count(2), 0);
-    Due.due("one PICK", x.count(9), 1);
-    Due.due("given still", Due.give(x, 1006, 1), 1);
-    Due.due("SATURATED", x.run(200), 2);
-    Due.due("PICKS that were made", x.count(9), 2);
-    Due.due("given no more", Due.give(x, 1006, 2), STATE);
-    Due.due("run: BAD all the same", x.run(201), BAD);
-    Due.due("run: the END", x.run(1), 2);
-  }
-
-  private static void pickOrder(int turns, int... order) {
-    ClaimHall x = hall();
-    x.turns(turns);
-    int[][] all = {{1007, 3, 3, 1}, {1007, 3, 1}, {1007, 1}, {1006, 1}, {1007, 2}, {1006, 3, 3, 3, 1}};
-    for (int[] one : all) Due.give(x, one);
-    for (int n = 0; n < order.length; n++) {
-      x.run(1);
-      Due.due("TURNS " + turns + ", PICK " + n, x.claim(order[n], 2), 1);
-      Due.due("TURNS " + turns + ", ACTIVE", x.count(3), n + 1);
-    }
-  }
-
-  private static void pickOrders() {
-    pickOrder(20, 3, 2, 4, 1, 0, 5);
-    pickOrder(0, 0, 1, 2, 3, 4, 5);
-    pickOrder(1, 3, 0, 2, 1, 4, 5);
-    pickOrder(2, 3, 2, 0, 4, 1, 5);
+    return Due.hall("f0 f0 f1 f2 s0 s1 s1:2 s2 s0");
   }
 
   private static void clash() {
@@ -157,88 +97,9 @@ public final class PicksTest {
     Due.due("into itself alone, for side 1 turns to what is GREATER", x.count(7), 1);
   }
 
-  /** Four LITERALS each: seven would come of a CLASH. */
-  private static void lostByLiterals() {
-    ClaimHall x = hall();
-    Due.give(x, 1007, -1, 1006, -1, 1006, 3, -1, 1006, 4, -1, -1, 1005);
-    Due.give(x, 2007, 3, 1, 1008, 1, 1, 1008, 1, 2, 1008, 2, 1);
-    x.run(2);
-    Due.due("made", x.count(7) > 0 ? 1 : 0, 1);
-    Due.due("LOST", x.count(6), 1);
-  }
-
-  private static void lostByPlaces() {
-    ClaimHall x = hall();
-    int[] deep = new int[18];
-    deep[0] = 2007;
-    for (int k = 1; k < 17; k++) deep[k] = 3;
-    deep[17] = 2;
-    Due.give(x, deep);
-    Due.give(x, 1007, -1, 1008, -1, -1);
-    Due.due("run", x.run(2), 0);
-    Due.due("made", x.count(7), 1);
-    Due.due("LOST", x.count(6), 1);
-    Due.due("KEPT", x.count(1), 2);
-  }
-
-  private static void fuelIsSpent() {
-    ClaimHall x = hall();
-    x.fuel(2);
-    Due.give(x, 1006, 1);
-    Due.give(x, 2006, -1, 1006, 3, -1);
-    Due.due("SPENT", x.run(50), 3);
-    Due.due("made", x.count(7), 2);
-    Due.due("the third STEP is not made", x.count(1), 4);
-    Due.due("given", x.given(), STATE);
-    x.fuel(3);
-    Due.due("the END stays", x.run(50), 3);
-    x.clear();
-    Due.give(x, 1006, 1);
-    Due.give(x, 2006, -1, 1006, 3, -1);
-    Due.due("SPENT again: one was left", x.run(50), 3);
-    Due.due("made since the beginning", x.count(7), 3);
-  }
-
-  private static void noStepNoFuel() {
-    ClaimHall x = hall();
-    x.fuel(0);
-    Due.give(x, 1006, 1);
-    Due.give(x, 2006, 2);
-    Due.due("no STEP would be made", x.run(50), 2);
-  }
-
-  private static void rewritingsBurn() {
-    ClaimHall x = hall();
-    x.fuel(2);
-    Due.give(x, 1000, 3, 1, 1);
-    Due.give(x, 1007, 3, 3, 1);
-    Due.due("REWRITINGS", x.step(1, 10), 2);
-    Due.literal("rewritten", x, 1, 0, false, 7, 1);
-    Due.due("REWRITINGS done", x.count(8), 2);
-    Due.due("SPENT", x.run(5), 3);
-    Due.due("made none", x.count(7), 0);
-  }
-
-  private static void eightRewritings() {
-    ClaimHall x = hall();
-    Due.give(x, 1000, 3, 1, 1);
-    Due.due("given", Due.give(x, 1006, 3, 3, 3, 3, 3, 3, 3, 3, 3, 3, 1), 1);
-    Due.due("eight at most", x.step(1, 10), 8);
-    Due.literal("two are left", x, 1, 0, false, 6, 3, 3, 1);
-    Due.due("the last", x.step(1, 11 + 4 * 7), 0);
-    Due.due("its side", x.step(1, 12 + 4 * 7), 0);
-    Due.due("its LITERAL", x.step(1, 13 + 4 * 7), 0);
-    Due.due("its PLACE", x.step(1, 14 + 4 * 7), 3);
-    Due.due("behind", x.step(1, 11 + 4 * 8), Integer.MIN_VALUE);
-    Due.due("judge", x.judge(1), 1);
-  }
-
   /** Each STEP of the chain makes one more, till 150 are KEPT. */
   private static void hundredAndFifty() {
-    ClaimHall x = new ClaimHall();
-    x.sign(false, 0, 1);
-    x.sign(false, 1, 1);
-    x.sign(true, 3, 1);
+    ClaimHall x = Due.hall("f0 f1 s3");
     Due.give(x, 1003, 1, 1, 1);
     Due.give(x, 2003, -1, -2, -3, 1003, 2, -1, -2, -3);
     Due.give(x, 2003, -1, -2, -3, 1003, -1, 2, -2, -3);
@@ -249,30 +110,6 @@ public final class PicksTest {
     Due.due("given", x.given(), STATE);
     Due.due("clear", x.clear(), 150);
     Due.due("given", Due.give(x, 1003, 1, 1, 1), 0);
-  }
-
-  /** The 150th is given: that, too, is the END. */
-  private static void hundredAndFiftyGiven() {
-    ClaimHall x = new ClaimHall();
-    x.sign(false, 0, 1);
-    x.sign(false, 1, 1);
-    x.sign(true, 3, 1);
-    for (int n = 4; n <= 15; n++) x.sign(true, 0, 1);
-    Due.give(x, 1003, 1, 1, 1);
-    Due.give(x, 2003, -1, -2, -3, 1003, 2, -1, -2, -3);
-    Due.give(x, 2003, -1, -2, -3, 1003, -1, 2, -2, -3);
-    Due.give(x, 2003, -1, -2, -3, 1003, -1, -2, 2, -3);
-    for (int n = 0; n < 200 && x.count(1) < 140; n++) x.run(1);
-    int kept = x.count(1);
-    Due.due("nearly full", kept >= 140 && kept < 150 ? 1 : 0, 1);
-    for (int n = kept; n < 150; n++) {
-      Due.due("goes on", x.count(10), 0);
-      Due.due("given", Due.give(x, 1004 + n - kept), n);
-    }
-    Due.due("SPENT", x.count(10), 3);
-    x.draft(1005);
-    Due.due("given no more", x.given(), STATE);
-    Due.due("the DRAFT stays", x.wipe(), 1);
   }
 
   private static void putAwayMeanwhile() {
@@ -286,19 +123,6 @@ public final class PicksTest {
     Due.due("made", x.count(7), 1);
     Due.due("run on", x.run(50), 2);
     Due.due("it is passed over", x.count(7), 1);
-  }
-
-  private static void pickedIsPutAway() {
-    ClaimHall x = hall();
-    x.turns(0);
-    Due.give(x, 1006, 2);
-    Due.give(x, 1006, 1);
-    Due.give(x, 2006, -1, 2005);
-    x.run(2);
-    Due.due("PICK", x.run(1), 0);
-    Due.due("the first CLASH puts the PICKED one away", x.claim(2, 3), 3);
-    Due.due("no STEP more", x.count(7), 1);
-    Due.literal("what is left", x, 3, 0, true, 5);
   }
 
   private static void clear() {
@@ -323,9 +147,6 @@ public final class PicksTest {
   }
 
   public static void main(String[] args) {
-    turnsAndFuel();
-    runNumbers();
-    pickOrders();
     clash();
     clashNeedsPositiveAndChosen();
     factor();
@@ -333,16 +154,8 @@ public final class PicksTest {
     turn();
     turnOnlyIntoChosen();
     turnNotToGreater();
-    lostByLiterals();
-    lostByPlaces();
-    fuelIsSpent();
-    noStepNoFuel();
-    rewritingsBurn();
-    eightRewritings();
     hundredAndFifty();
-    hundredAndFiftyGiven();
     putAwayMeanwhile();
-    pickedIsPutAway();
     clear();
     Due.end("PicksTest");
   }
