@@ -19,7 +19,7 @@ final class Due {
     }
   }
 
-  /** A refusal answers what is due, and changes nothing that digest() tells of. */
+  /** Refusals: "They change nothing.": nothing that digest() tells of. */
   static void refused(String name, ClaimHall x, Call call, long want) {
     long before = x.digest();
     due(name, call.answer(), want);

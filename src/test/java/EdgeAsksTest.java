@@ -98,8 +98,9 @@ public final class EdgeAsksTest {
 
   /**
    * Promise 12: "0 its KIND, then what it has, in the order told (1 and more), 0 what it has not; 10 how many
-   * REWRITINGS, 11 + 4 k of the k-th r, then side, j, place. BAD: the least int."; promise 13: "BAD: also one that it
-   * has not (by its KIND; of REWRITINGS)."
+   * REWRITINGS, 11 + 4 k of the k-th r, then side, j, place. BAD: the least int."; promise 13: "A number of the STEP of
+   * CLAIM c (as step(), but 0 and 10: its KIND stays) becomes v: 1. BAD: also one that it has not (by its KIND; of
+   * REWRITINGS)."
    */
   private static void stepAndForge() {
     ClaimHall given = hall();
@@ -158,7 +159,10 @@ public final class EdgeAsksTest {
     Due.due("the last one", x.judge(2), 1);
   }
 
-  /** Promise 15: "NONE: there is none such, or the END is not 1." */
+  /**
+   * Promise 15: "The k-th CLAIM, by numbers, of those from which the one without LITERALS comes"; "NONE: there is none
+   * such, or the END is not 1."
+   */
   private static void proof() {
     ClaimHall x = hall();
     Due.due("END 0", x.proof(0), NONE);

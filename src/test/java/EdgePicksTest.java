@@ -132,6 +132,41 @@ public final class EdgePicksTest {
     Due.due("what is KEPT meanwhile WAITS", x.claim(3, 2), 0);
   }
 
+  /**
+   * "CLASHES with it as p, a as n, by i", "TURNS from it into a, by i, sides, j, PLACES; if a is another one, from a
+   * into it likewise; behind all of these its FACTORS, by i, j"
+   */
+  private static void stepsOfAPositiveOne() {
+    ClaimHall x = Due.hall("f0 f0 f0 f0 s1 s1 s1");
+    x.turns(0);
+    Due.give(x, 2005, -1, 1006, -1);
+    Due.give(x, 1000, 4, 3, 1006, 2);
+    Due.give(x, 1000, 2, 1, 1005, 2, 1005, 4, 1007, -1, 1007, 1);
+    Due.due("PICKS", x.run(3), 0);
+    Due.step("CLASH with 0, by the first LITERAL that does", x, 3, 1, 2, 1, 0);
+    Due.step("CLASH with 0, by the second", x, 4, 1, 2, 2, 0);
+    Due.step("TURN from it into 1", x, 5, 4, 2, 0, 0, 1, 1, 1);
+    Due.step("TURN from 1 into it", x, 6, 4, 1, 0, 0, 2, 2, 1);
+    Due.step("FACTOR", x, 7, 2, 2, 3, 4);
+    Due.counts("1 with itself is TRIVIAL, it with itself is LOST twice", x, 8, 8, 5, 2, 1, 1, 2, 8, 0, 3, 0);
+  }
+
+  /** "if a is another one: with a as p, it as n, by i", "if a is another one, from a into it likewise", "its DROP." */
+  private static void stepsOfAnother() {
+    ClaimHall x = Due.hall("f0 f0 f0 s1 s0 s0");
+    x.turns(0);
+    Due.give(x, 1000, 3, 2, 1005);
+    Due.give(x, 1000, 2, 1, 1006);
+    Due.give(x, 2000, -1, 2, 1004, -1);
+    Due.due("PICKS", x.run(2), 0);
+    Due.step("TURN from 1 into 0", x, 3, 4, 1, 0, 0, 0, 0, 2);
+    Due.due("PICK", x.run(1), 0);
+    Due.step("CLASH with 0 as p", x, 4, 1, 0, 0, 2);
+    Due.step("TURN from 1 into it", x, 5, 4, 1, 0, 0, 2, 0, 2);
+    Due.step("DROP", x, 6, 3, 2);
+    Due.counts("0 and 1 with themselves are TRIVIAL", x, 7, 7, 4, 3, 0, 2, 0, 6, 0, 3, 0);
+  }
+
   /** "One that has been PUT AWAY meanwhile is passed over" */
   private static void passedOver() {
     ClaimHall x = hall();
@@ -243,6 +278,35 @@ public final class EdgePicksTest {
       Due.due("FUEL " + most + ": KEPT", x.count(1), 4 + Math.min(most, 3));
       Due.due("FUEL " + most + ": PICKS", x.count(9), most < 3 ? 4 : 7);
     }
+  }
+
+  /**
+   * FUNCTIONS 1 with two PARTS, 2 without, 3 with one: of three CLAIMS come STEPS without end, but fewer than 150 are
+   * KEPT.
+   */
+  private static ClaimHall endless() {
+    ClaimHall x = Due.hall("f2 f0 f1");
+    Due.give(x, 1000, 1, 2, -1, -1);
+    Due.give(x, 1000, 1, 3, -1, -1, 2);
+    Due.give(x, 1000, 1, 1, -1, -2, -3, 1, -1, 1, -2, -3);
+    return x;
+  }
+
+  /**
+   * Promise 1: "FUEL 2000"; promise 7: "FUEL (0 to 4000)": the last STEP begins below it and has 8 REWRITINGS at most
+   */
+  private static void spentAtTheMost() {
+    ClaimHall first = endless();
+    Due.due("SPENT", first.run(200), 3);
+    Due.due("KEPT", first.count(1) < 150 ? 1 : 0, 1);
+    int used = first.count(7) + first.count(8);
+    Due.due("not below 2000: " + used, used >= 2000 && used <= 2008 ? 1 : 0, 1);
+    ClaimHall most = endless();
+    most.fuel(4000);
+    Due.due("SPENT", most.run(200), 3);
+    Due.due("KEPT", most.count(1) < 150 ? 1 : 0, 1);
+    used = most.count(7) + most.count(8);
+    Due.due("not below 4000: " + used, used >= 4000 && used <= 4008 ? 1 : 0, 1);
   }
 
   /** "a STEP would be made (of any KIND but GIVEN": none is, so FUEL 0 is enough */
@@ -438,12 +502,15 @@ public final class EdgePicksTest {
     picksBehindClear();
     withItself();
     withActiveOnes();
+    stepsOfAPositiveOne();
+    stepsOfAnother();
     passedOver();
     passedOverInTheMidst();
     pickedIsPutAway();
     proved();
     saturated();
     spent();
+    spentAtTheMost();
     noStepNoFuel();
     lostOnesCount();
     rewritingsCount();
