@@ -9,8 +9,6 @@ import java.util.ArrayList;
 import java.util.List;
 import java.util.regex.Matcher;
 import java.util.regex.Pattern;
-import javax.tools.JavaCompiler;
-import javax.tools.ToolProvider;
 
 /**
  * What README.md, in the working directory, shows of the class's use: all its java blocks are compiled and run, and
@@ -81,9 +79,8 @@ public final class ReadmeTest {
     Path made = dir.resolve("Shown.class");
     try {
       Files.writeString(file, source);
-      JavaCompiler javac = ToolProvider.getSystemJavaCompiler();
-      int got = javac.run(null, null, null, "-d", dir.toString(), "-cp", System.getProperty("java.class.path"),
-          file.toString());
+      int got = new ProcessBuilder("javac", "--release", "17", "-d", dir.toString(), "-cp",
+          System.getProperty("java.class.path"), file.toString()).inheritIO().start().waitFor();
       Due.due("README.md compiles", got, 0);
       if (got != 0) return;
       try (URLClassLoader loader = new URLClassLoader(new URL[] {dir.toUri().toURL()})) {
